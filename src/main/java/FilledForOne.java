@@ -435,12 +435,12 @@ public final class FilledForOne {
             putOnBy = other.putOnBy;
         }
 
+        /** Who put it on counts only while it is busy, and so may stay. */
         void begin() {
             level = 0;
             warmth = 0;
             age = 0;
             busyTill = 0;
-            putOnBy = NOBODY;
         }
 
         boolean isFree(int minute) {
@@ -503,7 +503,6 @@ public final class FilledForOne {
             kettles = new Kettle[MOST_KETTLES];
             for (int i = 0; i < kettles.length; i++) {
                 kettles[i] = new Kettle();
-                kettles[i].putOnBy = NOBODY;
             }
             line = new int[MOST_COMERS];
         }
@@ -514,7 +513,6 @@ public final class FilledForOne {
             known = other.known;
             lined = other.lined;
             minute = other.minute;
-            boils = other.boils;
             for (int i = 0; i < known; i++) {
                 comers[i].copy(other.comers[i]);
             }
@@ -526,7 +524,6 @@ public final class FilledForOne {
         void begin() {
             minute = 0;
             lined = 0;
-            boils = 0;
             for (int i = 0; i < known; i++) {
                 comers[i].state = TO_COME;
             }
@@ -858,13 +855,13 @@ public final class FilledForOne {
         }
 
         int playRounds() {
-            for (int played = 1; played < MOST_ROUNDS; played++) {
-                if (!playRound()) {
-                    return played;
-                }
+            boolean changed = true;
+            int played = 0;
+            while (changed && played < MOST_ROUNDS) {
+                changed = playRound();
+                played++;
             }
-            playRound();
-            return MOST_ROUNDS;
+            return played;
         }
 
         boolean playRound() {

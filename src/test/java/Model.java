@@ -750,6 +750,17 @@ public final class Model {
         return what >= 0 && what < 9 ? counts.get(what) : -9;
     }
 
+    /** Comers at random who stand in each other's way. */
+    static String crowd(Random random) {
+        StringBuilder text = new StringBuilder(random.nextBoolean() ? "s7=2;" : "");
+        text.append(random.nextBoolean() ? "s0=" + (2 + random.nextInt(8)) + ";" : "");
+        for (int n = 2 + random.nextInt(7); n > 0; n--) {
+            text.append(String.format("c%d%d%03d%d%02d;", random.nextInt(7), random.nextInt(10), random.nextInt(20),
+                    1 + random.nextInt(3), random.nextInt(31)));
+        }
+        return text.toString();
+    }
+
     /** The letters of an office at random, now and then with something wrong in them. */
     static String someOffice(Random random, int minute) {
         StringBuilder text = new StringBuilder();

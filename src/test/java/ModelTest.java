@@ -38,14 +38,14 @@ public final class ModelTest {
     }
 
     private boolean run() throws Exception {
+        if (random.nextBoolean() && !told(Model.crowd(random))) {
+            return false;
+        }
         while (said.size() < CALLS) {
             int pick = random.nextInt(12);
-            boolean same = true;
+            boolean same;
             if (pick == 0) {
-                for (char c : Model.someOffice(random, model.count(1)).toCharArray()) {
-                    same = same && both("feed", (int) c);
-                }
-                same = same && both("office");
+                same = told(Model.someOffice(random, model.count(1)));
             } else if (pick < 4) {
                 same = both("go", 1 + random.nextInt(random.nextBoolean() ? 3 : 20));
             } else {
@@ -58,6 +58,14 @@ public final class ModelTest {
             }
         }
         return true;
+    }
+
+    private boolean told(String office) throws Exception {
+        boolean same = true;
+        for (char c : office.toCharArray()) {
+            same = same && both("feed", (int) c);
+        }
+        return same && both("office");
     }
 
     private Object[] arguments(Method m) {
