@@ -41,6 +41,7 @@ public final class FilledForOne {
     private static final int MOST_LETTERS = 96;
     private static final int GREATEST_LETTER = 255;
     private static final int MOST_IN_ROW = 12;
+    private static final int GREATEST_IN_ROW = 99;
     private static final int MOST_CUPS = 11;
     private static final int MOST_HOURLY = 99;
     private static final int MOST_SEATS = 8;
@@ -290,7 +291,7 @@ public final class FilledForOne {
         if (v < 0) {
             return refuse(BELOW);
         }
-        if (v > MOST_HOURLY || inRow >= row.length) {
+        if (v > GREATEST_IN_ROW || inRow >= row.length) {
             return refuse(ROOM);
         }
         row[inRow] = v;
@@ -374,7 +375,8 @@ public final class FilledForOne {
 
     /** Rounded up; 1 at least, for even boiling water that is put on again is busy for a minute. */
     private static int heatingMinutes(int cups, int degrees, int heat) {
-        return Math.max(1, (cups * degrees * heat + 99) / 100);
+        int work = cups * degrees * heat;
+        return work > 0 ? (work + 99) / 100 : 1;
     }
 
     private static final class Comer {
@@ -448,7 +450,7 @@ public final class FilledForOne {
         }
 
         boolean isReady(int minute, int cups) {
-            return isFree(minute) && warmth >= HOT && level >= cups;
+            return busyTill <= minute && warmth >= HOT && level >= cups;
         }
 
         void fill(int cups) {
@@ -600,7 +602,9 @@ public final class FilledForOne {
             lineUp();
             loseImpatient();
             for (int i = 0; i < lined; i++) {
-                attend(line[i]);
+                if (!serve(line[i])) {
+                    boil(line[i]);
+                }
             }
             closeUp();
             coolDown();
@@ -627,19 +631,30 @@ public final class FilledForOne {
             closeUp();
         }
 
-        void attend(int comer) {
-            Comer attended = comers[comer];
-            Kettle ready = firstReady(attended.wants);
+        boolean serve(int comer) {
+            Comer asking = comers[comer];
+            Kettle ready = firstReady(asking.wants);
             if (ready != null) {
-                ready.level -= attended.wants;
-                attended.state = SERVED;
-                attended.servedAt = minute;
+                ready.level -= asking.wants;
+                asking.state = SERVED;
+                asking.servedAt = minute;
+            }
+            return ready != null;
+        }
+
+        void boil(int comer) {
+            Kettle free = firstFree();
+            if (free == null || waitsForOwn(comer)) {
                 return;
             }
-            Kettle free = firstFree();
-            if (free != null && !waitsForOwn(comer)) {
-                boil(free, comer);
+            int cups = upTo(comers[comer], comers[comer].kind);
+            int start = minute;
+            if (free.level < cups) {
+                free.fill(cups);
+                start += settings[TAP];
             }
+            free.putOn(comer, start, settings[HEAT]);
+            boils++;
         }
 
         Kettle firstReady(int cups) {
@@ -669,17 +684,6 @@ public final class FilledForOne {
             return false;
         }
 
-        void boil(Kettle kettle, int comer) {
-            int cups = upTo(comers[comer], comers[comer].kind);
-            int start = minute;
-            if (kettle.level < cups) {
-                kettle.fill(cups);
-                start += settings[TAP];
-            }
-            kettle.putOn(comer, start, settings[HEAT]);
-            boils++;
-        }
-
         /** Those served or gone leave their places to the ones behind. */
         void closeUp() {
             int stay = 0;
@@ -700,21 +704,19 @@ public final class FilledForOne {
             }
         }
 
-        /** To how many cups a comer would fill now, were it of that kind. */
+        /** The kind is asked for apart from the comer: fits() tries kinds that it does not have. */
         int upTo(Comer comer, int kind) {
-            return Math.min(settings[HOLDS], Math.max(comer.wants, aim(comer, kind)));
-        }
-
-        int aim(Comer comer, int kind) {
+            int aim;
             switch (kind) {
-                case ONE: return comer.wants;
-                case FULL: return settings[HOLDS];
-                case LINE: return wantsInLine();
-                case BEST: return wantsInLine() + wantsToCome(minute + comer.figure);
-                case MARKED: return settings[MARK];
-                case TOLD: return comer.figure;
-                default: return comer.wants + 1;
+                case ONE: aim = comer.wants; break;
+                case FULL: aim = settings[HOLDS]; break;
+                case LINE: aim = wantsInLine(); break;
+                case BEST: aim = wantsInLine() + wantsToCome(minute + comer.figure); break;
+                case MARKED: aim = settings[MARK]; break;
+                case TOLD: aim = comer.figure; break;
+                default: aim = comer.wants + 1; break;
             }
+            return Math.min(settings[HOLDS], Math.max(comer.wants, aim));
         }
 
         int wantsInLine() {
@@ -827,9 +829,12 @@ public final class FilledForOne {
             return asked.state == SERVED ? asked.servedAt : NONE;
         }
 
+        /** Lets the minutes pass itself: through pass() the calls of rounds() would go too deep. */
         int costAnew() {
             day.begin();
-            day.pass(DAY_MINUTES);
+            for (int i = 0; i < DAY_MINUTES && !day.isOver(); i++) {
+                day.passMinute();
+            }
             return day.cost();
         }
 
@@ -858,20 +863,15 @@ public final class FilledForOne {
             boolean changed = true;
             int played = 0;
             while (changed && played < MOST_ROUNDS) {
-                changed = playRound();
+                changed = false;
+                for (int i = 0; i < day.known; i++) {
+                    int best = bestKind(i, true);
+                    changed = changed || best != day.comers[i].kind;
+                    day.comers[i].kind = best;
+                }
                 played++;
             }
             return played;
-        }
-
-        boolean playRound() {
-            boolean changed = false;
-            for (int i = 0; i < day.known; i++) {
-                int best = bestKind(i, true);
-                changed = changed || best != day.comers[i].kind;
-                day.comers[i].kind = best;
-            }
-            return changed;
         }
 
         int kindDigits() {
@@ -894,7 +894,7 @@ public final class FilledForOne {
             return cost - least;
         }
 
-        int bestMark(boolean itself) {
+        int bestMark(boolean asMark) {
             int best = 0;
             int least = Integer.MAX_VALUE;
             for (int mark = 0; mark <= day.settings[HOLDS]; mark++) {
@@ -905,7 +905,7 @@ public final class FilledForOne {
                     best = mark;
                 }
             }
-            return itself ? best : least;
+            return asMark ? best : least;
         }
 
         int savedBySecond() {

@@ -570,6 +570,7 @@ public final class PromisesTest {
         Check.due("ferry(4, 5)", t.x.ferry(4, 5), 32);
         Check.due("ferry(8, 0)", t.x.ferry(8, 0), 17);
         Check.due("ferry(8, 60)", t.x.ferry(8, 60), 197);
+        Check.due("nobody for the ferry", with("").x.ferry(2, 5), 0);
         Check.due("ferry(0, 61)", t.x.ferry(0, 61), -4);
         Check.due("ferry(9, -1)", t.x.ferry(9, -1), -4);
         Check.due("ferry(9, 0)", t.x.ferry(9, 0), -6);
@@ -582,6 +583,7 @@ public final class PromisesTest {
         Check.due("times(1)", t.x.times(1), 0);
         Check.due("times(5)", t.x.times(5), 2);
         Check.due("times(60)", t.x.times(60), 107);
+        Check.due("nobody at times", with("").x.times(5), 0);
         Check.due("times(0)", t.x.times(0), -4);
         Check.due("times(61)", t.x.times(61), -6);
         t.dueRefusals("times", 0, 0, 0, 1, 1);
@@ -592,6 +594,7 @@ public final class PromisesTest {
         Check.due("better(5)", t.x.better(5), 1);
         Check.due("better(1)", t.x.better(1), -9);
         Check.due("better(60)", t.x.better(60), 1);
+        Check.due("nobody, none better", with("").x.better(5), -9);
         Check.due("better(0)", t.x.better(0), -4);
         Check.due("better(61)", t.x.better(61), -6);
         t.dueRefusals("better", 0, 0, 0, 1, 1);
