@@ -58,6 +58,8 @@ public final class FilledForOne {
     private static final int GONE_COST = 9;
     private static final int BOIL_COST = 3;
     private static final int NOT_SERVED = 99;
+    private static final int DEARER_THAN_ANY = 0x7fffffff;
+    private static final int WITHOUT_SIGN = 0x7fffffff;
 
     private final Day now;
     private final Day kept;
@@ -843,7 +845,7 @@ public final class FilledForOne {
             Comer tried = day.comers[comer];
             int had = tried.kind;
             int best = 0;
-            int least = Integer.MAX_VALUE;
+            int least = DEARER_THAN_ANY;
             for (int kind = 0; kind < KINDS; kind++) {
                 tried.kind = kind;
                 int cost = costAnew();
@@ -884,7 +886,7 @@ public final class FilledForOne {
 
         int lostByKinds() {
             int cost = costAnew();
-            int least = Integer.MAX_VALUE;
+            int least = DEARER_THAN_ANY;
             for (int kind = 0; kind < KINDS; kind++) {
                 for (int i = 0; i < day.known; i++) {
                     day.comers[i].kind = kind;
@@ -896,7 +898,7 @@ public final class FilledForOne {
 
         int bestMark(boolean asMark) {
             int best = 0;
-            int least = Integer.MAX_VALUE;
+            int least = DEARER_THAN_ANY;
             for (int mark = 0; mark <= day.settings[HOLDS]; mark++) {
                 day.settings[MARK] = mark;
                 int cost = costAnew();
@@ -918,7 +920,7 @@ public final class FilledForOne {
         /** The kinds and figures come from the true day, for here they are overwritten. */
         int comerToFollow(Day told) {
             int best = NONE;
-            int least = Integer.MAX_VALUE;
+            int least = DEARER_THAN_ANY;
             for (int i = 0; i < told.known; i++) {
                 Comer followed = told.comers[i];
                 for (int j = 0; j < day.known; j++) {
@@ -959,7 +961,7 @@ public final class FilledForOne {
 
         int draw(int below) {
             seed = seed * 1103515245 + 12345;
-            return below > 0 ? (seed & Integer.MAX_VALUE) / 65536 % below : 0;
+            return below > 0 ? (seed & WITHOUT_SIGN) / 65536 % below : 0;
         }
     }
 
@@ -1002,7 +1004,7 @@ public final class FilledForOne {
 
         int leastBoils(Day day, boolean asCost) {
             int best = 0;
-            int least = Integer.MAX_VALUE;
+            int least = DEARER_THAN_ANY;
             for (int rows = 0; rows < 1 << count; rows++) {
                 int cost = boilsCost(rows, day.settings);
                 if (cost < least) {
@@ -1013,7 +1015,7 @@ public final class FilledForOne {
             return asCost ? least : best;
         }
 
-        /** Integer.MAX_VALUE if a row holds too much or the last comer ends none. */
+        /** DEARER_THAN_ANY if a row holds too much or the last comer ends none. */
         int boilsCost(int rows, int[] settings) {
             int cost = 0;
             int end = 0;
@@ -1022,7 +1024,7 @@ public final class FilledForOne {
             for (int k = 0; k < count; k++) {
                 cups += wants[k];
                 if (cups > settings[HOLDS]) {
-                    return Integer.MAX_VALUE;
+                    return DEARER_THAN_ANY;
                 }
                 if ((rows >> k & 1) == 1) {
                     end = Math.max(end, minutes[k]) + settings[TAP]
@@ -1032,7 +1034,7 @@ public final class FilledForOne {
                     cups = 0;
                 }
             }
-            return first == count ? cost : Integer.MAX_VALUE;
+            return first == count ? cost : DEARER_THAN_ANY;
         }
 
         int waitedTill(int end, int first, int last) {

@@ -18,7 +18,8 @@ public final class LanguageTest {
             "fits 1", "seeds 3", "image 0", "restore 0", "count 1"));
     private static final List<String> RULED_OUT = List.of("throw", "throws", "try", "catch", "synchronized",
             "assert", "import", "package", "protected", "Exception", "System\\.(?!arraycopy)", "->", "::",
-            "\\w+Exact", "Object", "static \\{", "@\\w+", "\" \\+|\\+ \"");
+            "\\w+Exact", "Object", "static \\{", "@\\w+", "\" \\+|\\+ \"",
+            "\\b(Integer|Long|Math)\\.[A-Z]");
     private static final int LONGEST_METHOD = 60;
 
     private LanguageTest() {
